@@ -9,9 +9,9 @@ public final class ModelTest {
     /** Each method once for every time that it is drawn, with the ends of its arguments' ranges. */
     private static final String[] CHANGES = {
         "write 24 100", "write 24 100", "write 24 100", "write 24 100", "write 24 100", "write 24 100", "write 24 100",
-        "delete 24", "takeSnapshot 4", "dropSnapshot 4", "rollBack 4", "enter 6", "enter 6", "leave 6", "announce 6",
+        "delete 24", "takeSnapshot 4", "dropSnapshot 4", "rollBack 4", "enter 6", "leave 6", "leave 6", "announce 6",
         "announce 6", "announce 6", "hold 6 24", "hold 6 24", "release 6 B", "advance", "advance", "advance", "pass 8",
-        "expel 6", "reclaim", "reclaim", "relocate 10", "relocate 10", "undo",
+        "pass 8", "pass 1000", "expel 6", "reclaim", "reclaim", "relocate 10", "relocate 10", "undo",
     };
     private static final String[] QUESTIONS = {
         "get 24", "addressOf 24", "room", "versions 24", "version 24 5", "getFrom 4 24", "changedSince 4", "difference 4 4",
@@ -28,6 +28,9 @@ public final class ModelTest {
     private int segments = 4;
     private int blocks = 4;
     private int keys = 24;
+    private int readers = 6;
+    private int snapshots = 4;
+    private int[] lastHold = {0, 0};
 
     private ModelTest(int seed) {
         random = new Random(seed);
@@ -42,6 +45,8 @@ public final class ModelTest {
 
     private void run() {
         keys = random.nextInt(3) == 0 ? 24 : 2 + random.nextInt(8);
+        readers = 1 + random.nextInt(6);
+        snapshots = 1 + random.nextInt(4);
         if (random.nextInt(8) != 0) {
             segments = random.nextInt(3) == 0 ? 3 + random.nextInt(8) : 3 + random.nextInt(3);
             blocks = random.nextInt(3) == 0 ? 2 + random.nextInt(11) : 2 + random.nextInt(3);
@@ -68,17 +73,24 @@ public final class ModelTest {
         if (words[0].equals("pass") && useful) {
             args[0]++;
         }
+        if ((words[0].equals("read") || words[0].equals("release")) && useful && random.nextBoolean()) {
+            args = lastHold;
+        }
         return same(words[0], args);
     }
 
     private int usual(String end) {
         switch (end) {
             case "B":
-                return 16 * random.nextInt(segments) + random.nextInt(blocks);
+                return random.nextBoolean() ? lastHold[1] : 16 * random.nextInt(segments) + random.nextInt(blocks);
             case "10":
                 return random.nextInt(segments);
             case "24":
                 return random.nextInt(keys);
+            case "6":
+                return random.nextInt(readers);
+            case "4":
+                return random.nextInt(snapshots);
             default:
                 return random.nextInt(Integer.parseInt(end));
         }
@@ -96,6 +108,9 @@ public final class ModelTest {
         String got = Calls.answer(volume, name, args);
         String want = Calls.answer(model, name, args);
         calls.append('\n').append(name).append(java.util.Arrays.toString(args)).append(" = ").append(want);
+        if (name.equals("hold") && want.matches("[0-9]+")) {
+            lastHold = new int[] {args[0], Integer.parseInt(want)};
+        }
         CHECK.holds(got.equals(want), "answered " + got + " to the last call of this run on a new object:" + calls);
         return got.equals(want);
     }
