@@ -138,7 +138,6 @@ public final class AppendedVolume {
 
     public int getFrom(int snapshot, int key)
             throws IndexOutOfBoundsException, IllegalStateException, NoSuchElementException {
-        checkSnapshot(snapshot);
         checkKey(key);
         checkTaken(snapshot);
         int address = now.snapshots.blockOf(snapshot, key);
@@ -922,12 +921,12 @@ public final class AppendedVolume {
         }
 
         void erase(int first, int end) {
-            Arrays.fill(state, first, end, UNUSED);
-            Arrays.fill(key, first, end, NONE);
-            Arrays.fill(value, first, end, NONE);
-            Arrays.fill(tick, first, end, NONE);
-            Arrays.fill(waitingEpoch, first, end, NONE);
-            Arrays.fill(holders, first, end, 0);
+            for (int address = first; address < end; address++) {
+                state[address] = UNUSED;
+                fill(address, NONE, NONE, NONE);
+                waitingEpoch[address] = NONE;
+                holders[address] = 0;
+            }
         }
 
         void fill(int address, int newKey, int newValue, int newTick) {
@@ -1155,7 +1154,9 @@ public final class AppendedVolume {
 
         void forget(int snapshot) {
             taken[snapshot] = false;
-            Arrays.fill(rows, snapshot * KEYS, (snapshot + 1) * KEYS, NONE);
+            for (int key = 0; key < KEYS; key++) {
+                rows[snapshot * KEYS + key] = NONE;
+            }
         }
 
         int blockOf(int snapshot, int key) {

@@ -57,7 +57,8 @@ public final class ModelTest {
         int changesOfTen = 3 + random.nextInt(6);
         for (int i = 1; i < CALLS; i++) {
             String[] from = random.nextInt(10) < changesOfTen ? CHANGES : QUESTIONS;
-            if (!draw(from[random.nextInt(from.length)])) {
+            boolean anew = random.nextInt(200) == 0;
+            if (anew ? !same("reset", segments, blocks, 1 + random.nextInt(6)) : !draw(from[random.nextInt(from.length)])) {
                 return;
             }
         }

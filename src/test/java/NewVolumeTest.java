@@ -74,8 +74,14 @@ public final class NewVolumeTest {
         v.reset(10, 12, 1);
         empty("the greatest volume", v, 10, 12, 1);
         v.write(1, 1);
+        v.write(2, 2);
+        v.enter(3);
+        v.hold(3, 2);
         v.reset(4, 4, 5);
         empty("reset as new", v, 4, 4, 5);
+        CHECK.due(0, "no reader holds a block of the old volume", () -> v.neededBy(1));
+        CHECK.due(0, "the first write of the new volume", () -> v.write(1, 1));
+        CHECK.due(1 << 16, "its block is needed by the key alone", () -> v.neededBy(0));
     }
 
     private static void resetRanges() {
