@@ -83,6 +83,10 @@ final class Check {
         }
     }
 
+    int calls() {
+        return calls;
+    }
+
     int wrong() {
         return wrong;
     }

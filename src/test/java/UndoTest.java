@@ -2,6 +2,13 @@
 public final class UndoTest {
     private static final Check CHECK = new Check("UndoTest");
 
+    /** A volume in which nearly every kind of change can succeed. */
+    private static final String BUSY = "reset 6 4 3; write {0..5} 5; takeSnapshot 0; write 0 10; delete 1; enter {0 1}; "
+        + "hold 0 {2 3}; advance; leave 1; enter 1; write 3 13";
+
+    /** Eight changes fill what undo remembers. */
+    private static final String FULL = "; 8 x pass 1";
+
     public static void main(String[] args) {
         eachChange();
         theLatestEight();
@@ -10,221 +17,73 @@ public final class UndoTest {
         CHECK.end();
     }
 
-    /** All that a caller can see of a volume. */
-    private static String seen(AppendedVolume v) {
-        StringBuilder text = new StringBuilder();
-        for (int i = 0; i < 10; i++) {
-            text.append(v.count(i)).append(' ');
-        }
-        for (int s = 0; s < v.count(0); s++) {
-            for (int i = 0; i < 6; i++) {
-                text.append(v.segment(s, i)).append(' ');
-            }
-            for (int b = 0; b < v.count(1); b++) {
-                for (int i = 0; i < 5; i++) {
-                    text.append(v.block(16 * s + b, i)).append(' ');
-                }
-                text.append(v.neededBy(16 * s + b)).append(' ');
-            }
-        }
-        for (int r = 0; r < 6; r++) {
-            for (int i = 0; i < 5; i++) {
-                text.append(v.reader(r, i)).append(' ');
-            }
-        }
-        for (int key = 0; key < 24; key++) {
-            text.append(v.addressOf(key)).append(' ');
-            for (int s = 0; s < 4; s++) {
-                text.append(fromSnapshot(v, s, key)).append(' ');
-            }
-        }
-        return text.toString();
-    }
-
-    private static String fromSnapshot(AppendedVolume v, int snapshot, int key) {
-        try {
-            return Integer.toString(v.getFrom(snapshot, key));
-        } catch (RuntimeException e) {
-            return e.getClass().getSimpleName();
-        }
-    }
-
-    /** A volume in which every kind of change can succeed; eight calls of pass fill what undo remembers. */
-    private static AppendedVolume busy() {
-        AppendedVolume v = new AppendedVolume();
-        v.reset(6, 4, 3);
-        for (int key = 0; key < 6; key++) {
-            v.write(key, key);
-        }
-        v.takeSnapshot(0);
-        v.write(0, 10);
-        v.delete(1);
-        v.enter(0);
-        v.enter(1);
-        v.hold(0, 2);
-        v.hold(0, 3);
-        v.advance();
-        v.leave(1);
-        v.enter(1);
-        v.write(3, 13);
-        for (int i = 0; i < 8; i++) {
-            v.pass(1);
-        }
-        return v;
-    }
-
     private static void eachChange() {
-        change("reset", v -> v.reset(10, 12, 9));
-        change("write", v -> v.write(7, 70));
-        change("write of a key that is there", v -> v.write(2, 70));
-        change("delete", v -> v.delete(2));
-        change("takeSnapshot", v -> v.takeSnapshot(3));
-        change("dropSnapshot", v -> v.dropSnapshot(0));
-        change("rollBack", v -> v.rollBack(0));
-        change("enter", v -> v.enter(5));
-        change("leave", v -> v.leave(0));
-        change("announce", v -> v.announce(0));
-        change("hold", v -> v.hold(0, 4));
-        change("release", v -> v.release(0, 2));
-        change("pass", v -> v.pass(1000));
-        change("expel", v -> v.expel(0));
-        change("relocate", v -> v.relocate(0));
-        change("hold of a block that is held", v -> v.hold(0, 2));
-        change("reclaim of nothing", AppendedVolume::reclaim);
-        change("announce of the present epoch", v -> v.announce(1));
-        AppendedVolume v = busy();
-        v.leave(0);
-        v.relocate(0);
-        fillMemory(v);
-        change("advance", v, AppendedVolume::advance);
-        v.advance();
-        v.announce(1);
-        v.advance();
-        fillMemory(v);
-        change("reclaim", v, w -> {
-            CHECK.due(4, "something is reclaimed", w::reclaim);
-            CHECK.due(1, "and erased", () -> w.segment(0, 4));
-        });
-    }
-
-    private interface Change {
-        void on(AppendedVolume v);
-    }
-
-    private static void change(String what, Change change) {
-        change(what, busy(), change);
+        change(BUSY, "reset 10 12 9");
+        change(BUSY, "write 7 70 = 32");
+        change(BUSY, "write 2 70 = 32");
+        change(BUSY, "delete 2 = 2");
+        change(BUSY, "takeSnapshot 3 = 5");
+        change(BUSY, "dropSnapshot 0 = 3");
+        change(BUSY, "rollBack 0 = 3");
+        change(BUSY, "enter 5 = 1");
+        change(BUSY, "leave 0 = 2");
+        change(BUSY, "announce 0 = 2");
+        change(BUSY, "hold 0 4 = 16");
+        change(BUSY, "release 0 2 = 1");
+        change(BUSY, "pass 1000 = 1008");
+        change(BUSY, "expel 0 = 2");
+        change(BUSY, "relocate 0 = 4");
+        change(BUSY, "hold 0 2 = 2");
+        change(BUSY, "reclaim = 0");
+        change(BUSY, "announce 1 = 0");
+        String relocated = BUSY + "; leave 0; relocate 0 = 4";
+        change(relocated, "advance = 2");
+        change(relocated + "; advance; announce 1; advance; announce 1; advance", "reclaim = 4; segment 0 4 = 1");
     }
 
     /** The volume remembers eight changes already, so that one more leaves seven to undo. */
-    private static void change(String what, AppendedVolume v, Change change) {
-        String before = seen(v);
-        change.on(v);
-        CHECK.due(7, "undo of " + what, v::undo);
-        CHECK.holds(before.equals(seen(v)), "undo of " + what + " does not bring back what was before");
-        for (int left = 6; left >= 0; left--) {
-            CHECK.due(left, "undo before " + what, v::undo);
-        }
-        CHECK.noState("all before " + what + " is undone", v::undo);
-        fillMemory(v);
-    }
-
-    private static void fillMemory(AppendedVolume v) {
-        for (int i = 0; i < 8; i++) {
-            v.pass(1);
-        }
+    private static void change(String run, String change) {
+        String before = Script.run(CHECK, run + FULL).seen();
+        Script script = Script.run(CHECK, run + FULL + "; " + change);
+        boolean alters = !change.matches("hold 0 2 .*|reclaim = 0|announce 1 .*");
+        CHECK.holds(before.equals(script.seen()) != alters, change + " does not do what it should");
+        script.go("undo = 7");
+        CHECK.holds(before.equals(script.seen()), "undo of " + change + " does not bring back what was before");
+        script.go("undo = {6..0}; undo ! State");
     }
 
     private static void theLatestEight() {
-        AppendedVolume v = new AppendedVolume();
         String[] states = new String[12];
+        Script script = new Script(CHECK);
         for (int i = 0; i < 12; i++) {
-            states[i] = seen(v);
-            v.write(i, i);
+            states[i] = script.seen();
+            script.go("write " + i + " " + i);
         }
         for (int i = 11; i >= 4; i--) {
-            CHECK.due(i - 4, "undo of write " + i, v::undo);
-            CHECK.holds(states[i].equals(seen(v)), "undo of write " + i + " brings back another volume");
+            script.go("undo = " + (i - 4));
+            CHECK.holds(states[i].equals(script.seen()), "undo of write " + i + " brings back another volume");
         }
-        CHECK.noState("the ninth change", v::undo);
-        CHECK.due(3, "it stands", () -> v.get(3));
-        AppendedVolume w = new AppendedVolume();
-        w.write(0, 1);
-        CHECK.due(0, "the only change", w::undo);
-        CHECK.noState("no change is left", w::undo);
-        CHECK.due(0, "the block is unused", () -> w.block(0, 0));
+        script.go("undo ! State; get 3 = 3");
+        Script.run(CHECK, "write 0 1; undo = 0; undo ! State; block 0 0 = 0");
     }
 
     private static void undoThenChange() {
-        AppendedVolume v = new AppendedVolume();
-        for (int i = 1; i <= 10; i++) {
-            v.pass(1);
-        }
-        CHECK.due(7, "back to 9", v::undo);
-        CHECK.due(6, "back to 8", v::undo);
-        CHECK.due(5, "back to 7", v::undo);
-        CHECK.due(107, "a change behind undo", () -> v.pass(100));
-        CHECK.due(5, "it is undone first", v::undo);
-        CHECK.due(7, "to where it began", () -> v.count(4));
-        for (int left = 4; left >= 0; left--) {
-            CHECK.due(left, "then the older ones", v::undo);
-        }
-        CHECK.due(2, "up to the eighth of ten", () -> v.count(4));
-        CHECK.noState("and no farther", v::undo);
-        v.reset(3, 2, 1);
-        CHECK.due(0, "reset can be undone", v::undo);
-        CHECK.due(2, "with all it took away", () -> v.count(4));
-        CHECK.due(4, "the segments too", () -> v.count(0));
+        Script.run(CHECK, "10 x pass 1; undo = {7 6 5}; pass 100 = 107; undo = 5; count 4 = 7; undo = {4..0}; count 4 = 2; "
+            + "undo ! State; reset 3 2 1; undo = 0; count 4 = 2; count 0 = 4");
     }
 
     /** Calls that ask or throw are no changes. */
     private static void noChanges() {
-        AppendedVolume v = busy();
-        v.delete(0);
-        v.write(8, 8);
-        String before = seen(v);
-        asking(v);
-        CHECK.noState("throwing", v::advance);
-        CHECK.noIndex("throwing", () -> v.write(24, 0));
-        CHECK.noElement("throwing", () -> v.delete(20));
-        CHECK.noState("throwing", () -> v.takeSnapshot(0));
-        CHECK.noState("throwing", () -> v.dropSnapshot(1));
-        CHECK.noState("throwing", () -> v.rollBack(1));
-        CHECK.noState("throwing", () -> v.enter(0));
-        CHECK.noState("throwing", () -> v.leave(5));
-        CHECK.noState("throwing", () -> v.announce(5));
-        CHECK.noElement("throwing", () -> v.hold(0, 20));
-        CHECK.noElement("throwing", () -> v.release(0, 0));
-        CHECK.noState("throwing", () -> v.expel(1));
-        CHECK.noArgument("throwing", () -> v.pass(0));
-        CHECK.noState("throwing", () -> v.relocate(5));
-        CHECK.holds(before.equals(seen(v)), "asking and throwing change something");
-        CHECK.due(7, "the write is undone", v::undo);
-        CHECK.due(-1, "indeed", () -> v.addressOf(8));
-    }
-
-    private static void asking(AppendedVolume v) {
-        v.room();
-        v.blockers();
-        v.costliestReader();
-        v.wouldErase();
-        v.regainable();
-        v.regainableNow();
-        v.wearGap();
-        v.get(2);
-        v.versions(2);
-        v.version(2, 0);
-        v.getFrom(0, 0);
-        v.changedSince(0);
-        v.difference(0, 0);
-        v.ownBlocks(0);
-        v.read(0, 2);
-        v.reclaimableWithout(0);
-        v.blocks(0);
-        v.meanAge(0, true);
-        v.waiting(0);
-        v.victim(0);
-        v.relocationsFor(0, 1);
-        CHECK.noElement("relocating in thought", () -> v.relocationsFor(0, 12));
-        v.amplification(true);
+        Script script = Script.run(CHECK, BUSY + "; delete 0; write 8 8 = 32");
+        String before = script.seen();
+        script.go("room; blockers; costliestReader; wouldErase; regainable; regainableNow; wearGap; get 2; addressOf 2; "
+            + "versions 2; version 2 0; getFrom 0 0; changedSince 0; difference 0 0; ownBlocks 0; read 0 2; reader 0 0; "
+            + "reclaimableWithout 0; count 0; blocks 0; segment 0 0; meanAge 0 1; block 0 0; neededBy 0; waiting 0; "
+            + "victim 0; relocationsFor 0 1; relocationsFor 0 12 ! Element; amplification 1");
+        script.go("advance ! State; write 24 0 ! Index; delete 20 ! Element; takeSnapshot 0 ! State; dropSnapshot 1 ! State; "
+            + "rollBack 1 ! State; enter 0 ! State; leave 5 ! State; announce 5 ! State; hold 0 20 ! Element; "
+            + "release 0 0 ! Element; expel 1 ! State; pass 0 ! Argument; relocate 5 ! State");
+        CHECK.holds(before.equals(script.seen()), "asking and throwing change something");
+        script.go("undo = 7; addressOf 8 = -1");
     }
 }
