@@ -13,7 +13,8 @@ final class Seen {
 
     static String after(List<Call> calls) {
         AppendedVolume first = led(calls);
-        List<Call> questions = questions(first.count(0), first.count(1));
+        // A class that takes too large a volume must be found wrong, and not keep the test for hours.
+        List<Call> questions = questions(Math.min(first.count(0), 11), Math.min(first.count(1), 16));
         int part = calls.size() < MOST_CALLS ? MOST_CALLS - calls.size() : questions.size();
         StringBuilder text = new StringBuilder();
         for (int from = 0; from < questions.size(); from += part) {

@@ -81,8 +81,9 @@ final class SnapshotEdges {
         e.edge("`snapshot`: 0 to 3",
             "write 0 10; takeSnapshot 0; write 0 11; takeSnapshot 1; write 0 12; takeSnapshot 2; write 0 13; takeSnapshot 3; "
                 + "delete 0; getFrom {0..3} 0 = {10..13}; getFrom {-1 4} 0 ! Index");
-        e.edge("`key`: 0 to 23", "reset 3 12 5; write {0..23} 7; takeSnapshot 0; getFrom 0 {0..23} = 7; "
-                + "getFrom 0 {-1 24} ! Index", "write 23 5; write 0 4; takeSnapshot {0 3}; getFrom {0 3} 23 = 5; getFrom 3 0 = 4");
+        e.edge("`key`: 0 to 23",
+            "reset 3 12 5; write {0..23} 7; takeSnapshot 0; getFrom 0 {0..23} = 7; getFrom 0 {-1 24} ! Index",
+            "write 23 5; write 0 4; takeSnapshot {0 3}; getFrom {0 3} 23 = 5; getFrom 3 0 = 4");
         e.edge("Returns the value.", "write 0 min; write 1 max; write 2 -1; takeSnapshot 0; write {0 1} 3; "
                 + "getFrom 0 {0 1 2} = {min max -1}; relocate 0; getFrom 0 {0 1 2} = {min max -1}");
         e.edge("Throws `IndexOutOfBoundsException` if the snapshot or the key does not exist",
