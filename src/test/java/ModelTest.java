@@ -10,8 +10,9 @@ public final class ModelTest {
     private static final String[] CHANGES = {
         "write 24 100", "write 24 100", "write 24 100", "write 24 100", "write 24 100", "write 24 100", "write 24 100",
         "delete 24", "takeSnapshot 4", "dropSnapshot 4", "rollBack 4", "enter 6", "leave 6", "leave 6", "announce 6",
-        "announce 6", "announce 6", "hold 6 24", "hold 6 24", "release 6 B", "advance", "advance", "advance", "pass 8",
-        "pass 8", "pass 1000", "expel 6", "reclaim", "reclaim", "relocate 10", "relocate 10", "undo",
+        "announce 6", "announce 6", "hold 6 24", "hold 6 24", "hold 6 24", "hold 6 24", "release 6 B", "advance",
+        "advance", "advance", "pass 8", "pass 8", "pass 1000", "expel 6", "expel 6", "reclaim", "reclaim",
+        "relocate 10", "relocate 10", "undo",
     };
     private static final String[] QUESTIONS = {
         "get 24", "addressOf 24", "room", "versions 24", "version 24 5", "getFrom 4 24", "changedSince 4", "difference 4 4",
@@ -31,6 +32,7 @@ public final class ModelTest {
     private int readers = 6;
     private int snapshots = 4;
     private int[] lastHold = {0, 0};
+    private int made;
 
     private ModelTest(int seed) {
         random = new Random(seed);
@@ -55,13 +57,26 @@ public final class ModelTest {
             }
         }
         int changesOfTen = 3 + random.nextInt(6);
-        for (int i = 1; i < CALLS; i++) {
+        while (made < CALLS) {
             String[] from = random.nextInt(10) < changesOfTen ? CHANGES : QUESTIONS;
             boolean anew = random.nextInt(200) == 0;
             if (anew ? !same("reset", segments, blocks, 1 + random.nextInt(6)) : !draw(from[random.nextInt(from.length)])) {
                 return;
             }
+            if (random.nextInt(100) == 0 && !undoSeveral(2 + random.nextInt(8))) {
+                return;
+            }
         }
+    }
+
+    /** Single undos hardly ever reach the oldest change that can be undone. */
+    private boolean undoSeveral(int times) {
+        for (int i = 0; i < times && made < CALLS; i++) {
+            if (!same("undo")) {
+                return false;
+            }
+        }
+        return true;
     }
 
     private boolean draw(String line) {
@@ -106,6 +121,7 @@ public final class ModelTest {
     }
 
     private boolean same(String name, int... args) {
+        made++;
         String got = Calls.answer(volume, name, args);
         String want = Calls.answer(model, name, args);
         calls.append('\n').append(name).append(java.util.Arrays.toString(args)).append(" = ").append(want);
